@@ -268,6 +268,8 @@ public final class PromiseTest {
         house("d0", -3);
         house("d08", -3);
         house("d00l1", -3);
+        house("d33l1", -3);
+        house("d77", -3);
         house("d01", -4);
         house("d01b1", -4);
         house("d01l", -5);
@@ -338,6 +340,14 @@ public final class PromiseTest {
         rule("r<(s>o)=1", -8);
         rule("r<(s>o=1)", -7);
         rule("r==s", -3);
+        rule("r<", -3);
+        rule("r<<s", -3);
+        rule("r*", -3);
+        rule("r*)", -3);
+        rule("r+(s*", -6);
+        rule("(r<", -4);
+        rule("-(", -3);
+        rule("(", -2);
         rule("r>=s", -3);
         rule("((((r))))", 0);
         rule("(((((r)))))", -5);
@@ -636,6 +646,11 @@ public final class PromiseTest {
         row(1, 0);
         order("n9", 1);
         row(0, 27);
+        order("", 0);
+        row(0, 0);
+        due("nothing of the last order is done", x.count(2), 12);
+        order("n9", 1);
+        row(0, 27);
         order("h2>1;n0", -7);
         due("nothing is done then", x.hinge(2, 5), -1);
         row(0, 27);
@@ -676,6 +691,9 @@ public final class PromiseTest {
 
     private static void undone() {
         promise(18);
+        fresh("d01l5;d02r9;hl3*4;hl3*2;hr9*9");
+        due("none", x.undo(), -1);
+        undoneOneByOne();
         fresh("d01l5;d02r9;hl3*4;hl3*2;hr9*9");
         due("none", x.undo(), -1);
         x.hang(0, 0);
@@ -749,6 +767,36 @@ public final class PromiseTest {
         due("secrets stay", x.count(5), 9);
         x.gale(1, 5);
         due("a gale in which nothing falls", x.count(6), 1);
+    }
+
+    private static void undoneOneByOne() {
+        fresh("d01l9;hl1*3;hl1;hr1");
+        x.hang(0, 0);
+        x.day();
+        due("take", x.take(0), 0);
+        due("undo take", x.undo(), 2);
+        due("it hangs", x.door(0, 4), 1);
+        due("rust", x.hinge(0, 3), 1);
+        due("bend", x.bend(2), true);
+        due("undo bend", x.undo(), 2);
+        due("hand", x.hinge(2, 0), 1);
+        due("till", x.count(3), 3);
+        due("gale: 16838 of 19 is 4", x.gale(1, 19), 1);
+        due("rust", x.hinge(0, 3), 3);
+        due("undo gale", x.undo(), 2);
+        due("it hangs", x.door(0, 4), 1);
+        due("rust", x.hinge(0, 3), 1);
+        due("hang", x.hang(1, 0), 2);
+        due("undo hang", x.undo(), 2);
+        due("in the forge", x.hinge(1, 5), -1);
+        due("oil", x.oil(0, 5), 5);
+        due("undo oil", x.undo(), 2);
+        due("oil", x.hinge(0, 4), 0);
+        order("t0;h1>0", 2);
+        due("undo order", x.undo(), 2);
+        due("on the door", x.door(0, 4), 1);
+        due("undo day", x.undo(), 1);
+        due("till and days", x.count(3) + x.count(2), 0);
     }
 
     // ---- what is shut
@@ -888,6 +936,17 @@ public final class PromiseTest {
         row(32);
         due("wall(5)", x.wall(5), 0);
         row(0);
+        fresh("d01l1");
+        x.shut();
+        due("all doors", x.wall(1), 1);
+        row(1);
+        fresh("d01l1;d10r1;d01r1");
+        due("all doors", x.wall(1), 3);
+        row(7);
+        due("wall(2)", x.wall(2), 0);
+        row(0);
+        fresh("d01l1;d12l1;d02l1;d13l1;d23l1;d34l1;hl9;hl9");
+        x.wall(5);
         due("wall(0)", x.wall(0), -1);
         due("wall(8)", x.wall(8), -1);
         row(0);
@@ -949,6 +1008,9 @@ public final class PromiseTest {
         due("most", x.most(), 2);
         row(6);
         fresh("d01l9;d12r9;hl4;hr4");
+        due("most", x.most(), 0);
+        row(0);
+        x.shut();
         due("most", x.most(), 0);
         row(0);
         fresh("d01l1;d12l1;d23l1;d34l1;hl1;hl1;hl1;hl1;hl1");
@@ -1106,6 +1168,8 @@ public final class PromiseTest {
         order("h0>0;h1>0;h2>1;h3>1;h4>2", 5);
         due("risk(2): 0 and 1 alone", x.risk(2), 0);
         row(1, 1);
+        due("risk(1)", x.risk(1), 0);
+        row(1, 1);
         due("risk(3)", x.risk(3), 1);
         row(2, 3);
         due("risk(6)", x.risk(6), 3);
@@ -1131,6 +1195,9 @@ public final class PromiseTest {
         due("a hold of 0", x.stands(), 1);
         fresh("d01l9;d02r4;hl7;hl9;hr1;hr3");
         due("nothing hangs", x.stands(), 19);
+        x.hang(0, 0);
+        due("the first alone", x.stands(), 8);
+        x.take(0);
         x.hang(1, 0);
         due("stands", x.stands(), 10);
         x.hang(0, 0);
@@ -1288,6 +1355,13 @@ public final class PromiseTest {
         due("behind(0, 99)", x.behind(0, 99), 4);
         row(1);
         due("nothing changes", x.count(4), 47);
+        fresh("d01l5;d02l5;hl3;hl3");
+        rule("s", 0);
+        x.hang(0, 1);
+        due("those in the forge alone", x.behind(0, 3), 1);
+        row(2);
+        due("those in the forge alone", x.behind(0, 6), 0);
+        row(-1);
     }
 
     // ---- bidding, rings
@@ -1354,6 +1428,18 @@ public final class PromiseTest {
         order("h2>0;h1>0;h0>1", 3);
         due("the first by number that hangs there", x.rings(), 2);
         row(3, 1);
+        fresh("d01l9;d02r8;d03r7;hb1;hr1;hb1");
+        order("h0>0;h1>1;h2>2", 3);
+        due("a ring of three", x.rings(), 3);
+        row(7, 1);
+        fresh("d01l5;d02l5;d03l5;hl1;hl1;hl1");
+        order("h0>0;h1>1;h2>2", 3);
+        due("of equal ones the first", x.rings(), 2);
+        row(3, 1);
+        fresh("d01l5;d02r5;hl1;hr1");
+        order("h0>0;h1>1", 2);
+        due("no other that it fits", x.rings(), 0);
+        row(0, 0);
     }
 
     // ---- kept
