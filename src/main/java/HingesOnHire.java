@@ -1588,6 +1588,9 @@ public final class HingesOnHire {
         final int[] pairs = new int[MAX_DOORS * MOST_PAIRS];
         final int[] prices = new int[MAX_DOORS * MOST_PAIRS];
         final int[] twins = new int[MAX_DOORS * MOST_PAIRS];
+        final int[] fees = new int[MAX_HINGES];
+        final int[] lowerTwins = new int[MAX_HINGES];
+        final int[] leastFees = new int[MAX_HINGES + 1];
         final int[] pairCount = new int[MAX_DOORS];
         final int[] turns = new int[MAX_DOORS];
         // Of each set of used HINGES: the search's stamp and, in the low byte, what the rest costs.
@@ -1637,44 +1640,57 @@ public final class HingesOnHire {
         void prepare(Town town, boolean priced) {
             doors = town.doors;
             hinges = town.hinges;
+            for (int h = 0; h < hinges; h++) {
+                fees[h] = priced ? town.fee[h] : 0;
+            }
+            for (int h = 0; h < hinges; h++) {
+                lowerTwins[h] = twinsAhead(town, h);
+            }
+            addUpLeastFees();
             for (int d = 0; d < doors; d++) {
                 hungNow[d] = town.hung[d];
                 pairCount[d] = 0;
                 // By the higher HINGE first, so that the sets ascend.
                 for (int high = 1; high < hinges; high++) {
-                    for (int low = 0; low < high; low++) {
-                        int set = 1 << high | 1 << low;
-                        if (town.fits(high, d) && town.fits(low, d) && town.shutBy(d, set)) {
-                            addPair(town, d, set, priced);
+                    for (int low = 0; town.fits(high, d) && low < high; low++) {
+                        if (town.fits(low, d) && town.hold(high) + town.hold(low) >= town.weight[d]) {
+                            addPair(d, high, low);
                         }
                     }
                 }
             }
         }
 
-        void addPair(Town town, int d, int set, boolean priced) {
-            int at = d * MOST_PAIRS + pairCount[d];
-            pairs[at] = set;
-            prices[at] = priced ? town.feesOf(set) : 0;
-            twins[at] = 0;
-            for (int h = 0; h < hinges; h++) {
-                if ((set & 1 << h) != 0) {
-                    twins[at] |= lowerTwins(town, h, priced) & ~set;
-                }
-            }
-            pairCount[d]++;
-        }
-
         /** HINGES ahead of this one that serve as well: a search need not try it while one of them is free. */
-        static int lowerTwins(Town town, int h, boolean priced) {
+        int twinsAhead(Town town, int h) {
             int set = 0;
             for (int other = 0; other < h; other++) {
                 boolean alike = town.hand[other] == town.hand[h] && town.hold(other) == town.hold(h);
-                if (alike && (!priced || town.fee[other] == town.fee[h])) {
-                    set |= 1 << other;
-                }
+                set |= alike && fees[other] == fees[h] ? 1 << other : 0;
             }
             return set;
+        }
+
+        /** What so many HINGES cost at least, whichever they are. */
+        void addUpLeastFees() {
+            int many = 0;
+            leastFees[0] = 0;
+            for (int fee = 0; fee <= 9; fee++) {
+                for (int h = 0; h < hinges; h++) {
+                    if (fees[h] == fee && many < MAX_HINGES) {
+                        leastFees[many + 1] = leastFees[many] + fee;
+                        many++;
+                    }
+                }
+            }
+        }
+
+        void addPair(int d, int high, int low) {
+            int at = d * MOST_PAIRS + pairCount[d];
+            pairs[at] = 1 << high | 1 << low;
+            prices[at] = fees[high] + fees[low];
+            twins[at] = (lowerTwins[high] | lowerTwins[low]) & ~pairs[at];
+            pairCount[d]++;
         }
 
         /** The least cost at which these DOORS are SHUT at once, or NO_WAY. */
@@ -1723,8 +1739,9 @@ public final class HingesOnHire {
             int from = turns[turn] * MOST_PAIRS;
             int to = from + pairCount[turns[turn]];
             int least = NO_WAY;
-            for (int at = from; at < to && least > 0; at++) {
-                if ((pairs[at] & used) == 0 && (twins[at] & ~used) == 0 && prices[at] < least) {
+            int others = leastFees[Math.min(hinges, 2 * (turnCount - turn - 1))];
+            for (int at = from; at < to && least > others; at++) {
+                if ((pairs[at] & used) == 0 && (twins[at] & ~used) == 0 && prices[at] + others < least) {
                     least = Math.min(least, prices[at] + costFrom(turn + 1, used | pairs[at]));
                 }
             }
@@ -1809,7 +1826,8 @@ public final class HingesOnHire {
             int found = NONE;
             int least = NO_WAY;
             for (int mask = 0; mask < 1 << doors && least > 0; mask++) {
-                if (isNeeded(mask, v)) {
+                int many = Math.min(2 * Integer.bitCount(mask), hinges);
+                if (leastFees[many] < least && isNeeded(mask, v)) {
                     int cost = costOf(mask);
                     if (cost < least) {
                         least = cost;
