@@ -61,7 +61,8 @@ public final class HingesOnHire {
 
     public int rule() {
         text.open(RULE_SIGNS);
-        boolean good = text.length == 0 || creaking.readDraft(text) && text.isWhole();
+        creaking.startDraft();
+        boolean good = text.length == 0 || creaking.readExpression(text, 0) && text.isWhole();
         int answer = good ? 0 : -1 - text.at;
         if (good) {
             creaking.adopt(text.length > 0);
@@ -810,12 +811,8 @@ public final class HingesOnHire {
             return holdWith(h, rust[h]);
         }
 
-        int holdWith(int h, int rusty) {
+        private int holdWith(int h, int rusty) {
             return Math.max(0, strength[h] - rusty / 2);
-        }
-
-        int holdsOf(int set) {
-            return holdsAfter(set, 0, true);
         }
 
         /** What a set holds after k DAYS on a DOOR, with the OIL that it has or as if it had none. */
@@ -839,7 +836,7 @@ public final class HingesOnHire {
         }
 
         boolean shutBy(int d, int set) {
-            return Integer.bitCount(set) == 2 && holdsOf(set) >= weight[d];
+            return Integer.bitCount(set) == 2 && holdsAfter(set, 0, true) >= weight[d];
         }
 
         int stateOf(int d) {
@@ -1011,11 +1008,11 @@ public final class HingesOnHire {
             if (!fits(h, d) || !hasRoom(d)) {
                 return 0;
             }
-            return Math.max(0, weight[d] - holdsOf(hung[d]));
+            return Math.max(0, weight[d] - holdsAfter(hung[d], 0, true));
         }
 
         /** The HINGE whose place this one would rather have, or NONE. */
-        int nextInRing(int h) {
+        private int nextInRing(int h) {
             int wish = NONE;
             for (int d = 0; d < doors; d++) {
                 if (d != place[h] && fits(h, d) && (wish == NONE || weight[d] > weight[wish])) {
@@ -1107,7 +1104,7 @@ public final class HingesOnHire {
             return true;
         }
 
-        void save(Town town, int slot) {
+        private void save(Town town, int slot) {
             int from = slot * SLOT;
             for (int h = 0; h < town.hinges; h++) {
                 states[from + h] = town.place[h] + 1 << 12 | town.hand[h] << 8 | town.rust[h] << 4 | town.oilLeft[h];
@@ -1116,7 +1113,7 @@ public final class HingesOnHire {
             states[from + MAX_HINGES + 1] = town.dayCount;
         }
 
-        void load(Town town, int slot) {
+        private void load(Town town, int slot) {
             int from = slot * SLOT;
             for (int h = 0; h < town.hinges; h++) {
                 int packed = states[from + h];
@@ -1147,9 +1144,8 @@ public final class HingesOnHire {
         int size;
         int draftSize;
 
-        boolean readDraft(Signs text) {
+        void startDraft() {
             draftSize = 0;
-            return readExpression(text, 0) && text.isOver();
         }
 
         /** The draft is THE RULE now, or, without one, there is none. */
@@ -1158,7 +1154,7 @@ public final class HingesOnHire {
             System.arraycopy(draft, 0, steps, 0, size);
         }
 
-        void write(int step) {
+        private void write(int step) {
             if (draftSize < draft.length) {
                 draft[draftSize] = step;
                 draftSize++;
@@ -1181,7 +1177,7 @@ public final class HingesOnHire {
             return true;
         }
 
-        boolean readSum(Signs text, int depth) {
+        private boolean readSum(Signs text, int depth) {
             if (!readProduct(text, depth)) {
                 return false;
             }
@@ -1199,8 +1195,8 @@ public final class HingesOnHire {
             return true;
         }
 
-        boolean readProduct(Signs text, int depth) {
-            if (!readSigned(text, depth)) {
+        private boolean readProduct(Signs text, int depth) {
+            if (!readThing(text, depth)) {
                 return false;
             }
             for (int k = 0; k < RULE_SIGNS; k++) {
@@ -1209,7 +1205,7 @@ public final class HingesOnHire {
                     return true;
                 }
                 text.at++;
-                if (!readSigned(text, depth)) {
+                if (!readThing(text, depth)) {
                     return false;
                 }
                 write(OPERATOR + operator);
@@ -1217,38 +1213,28 @@ public final class HingesOnHire {
             return true;
         }
 
-        boolean readSigned(Signs text, int depth) {
+        private boolean readThing(Signs text, int depth) {
             boolean negative = false;
             for (int k = 0; k < RULE_SIGNS && text.eat('-'); k++) {
                 negative = !negative;
             }
-            if (!readThing(text, depth)) {
-                return false;
+            int sign = text.peek();
+            boolean good;
+            if (isLetter(sign)) {
+                good = text.eat(sign);
+                write(THING + sign);
+            } else if (sign == '(') {
+                good = depth < MAX_NESTED && text.eat('(') && readExpression(text, depth + 1) && text.eat(')');
+            } else {
+                good = readNumber(text);
             }
-            if (negative) {
+            if (good && negative) {
                 write(NEGATE);
             }
-            return true;
+            return good;
         }
 
-        boolean readThing(Signs text, int depth) {
-            int sign = text.peek();
-            if (sign == '(') {
-                if (depth >= MAX_NESTED) {
-                    return false;
-                }
-                text.at++;
-                return readExpression(text, depth + 1) && text.eat(')');
-            }
-            if (isLetter(sign)) {
-                text.at++;
-                write(THING + sign);
-                return true;
-            }
-            return readNumber(text);
-        }
-
-        boolean readNumber(Signs text) {
+        private boolean readNumber(Signs text) {
             int number = text.digit(0, 9);
             if (number == NONE) {
                 return false;
@@ -1264,7 +1250,7 @@ public final class HingesOnHire {
             return true;
         }
 
-        static boolean isLetter(int sign) {
+        private static boolean isLetter(int sign) {
             switch (sign) {
                 case 'r':
                 case 's':
@@ -1284,16 +1270,17 @@ public final class HingesOnHire {
         /** CREAK of a DOOR, if just this set were on it. */
         int creakOf(Town town, int d, int set) {
             int sum = 0;
+            boolean shuts = town.shutBy(d, set);
             for (int h = 0; h < town.hinges; h++) {
                 if ((set & 1 << h) != 0) {
-                    int told = size == 0 ? town.rust[h] : tellOf(town, h, d, set);
+                    int told = size == 0 ? town.rust[h] : tellOf(town, h, d, Integer.bitCount(set), shuts);
                     sum += Math.max(0, Math.min(99, told));
                 }
             }
             return sum;
         }
 
-        int tellOf(Town town, int h, int d, int set) {
+        private int tellOf(Town town, int h, int d, int many, boolean shuts) {
             int top = 0;
             for (int k = 0; k < size && top < stack.length; k++) {
                 int step = steps[k];
@@ -1301,7 +1288,7 @@ public final class HingesOnHire {
                     stack[top] = step;
                     top++;
                 } else if (step < OPERATOR) {
-                    stack[top] = thingOf(step - THING, town, h, d, set);
+                    stack[top] = thingOf(step - THING, town, h, d, many, shuts);
                     top++;
                 } else if (step == NEGATE && top > 0) {
                     stack[top - 1] = -stack[top - 1];
@@ -1313,7 +1300,7 @@ public final class HingesOnHire {
             return stack[0];
         }
 
-        static int thingOf(int letter, Town town, int h, int d, int set) {
+        private static int thingOf(int letter, Town town, int h, int d, int many, boolean shuts) {
             switch (letter) {
                 case 'r':
                     return town.rust[h];
@@ -1324,7 +1311,7 @@ public final class HingesOnHire {
                 case 'w':
                     return town.weight[d];
                 case 'n':
-                    return Integer.bitCount(set);
+                    return many;
                 case 't':
                     return town.dayCount;
                 case 'i':
@@ -1332,11 +1319,11 @@ public final class HingesOnHire {
                 case 'd':
                     return d;
                 default:
-                    return town.shutBy(d, set) ? 1 : 0;
+                    return shuts ? 1 : 0;
             }
         }
 
-        static int reckon(int operator, int a, int b) {
+        private static int reckon(int operator, int a, int b) {
             switch (operator) {
                 case '<':
                     return a < b ? 1 : 0;
@@ -1384,7 +1371,7 @@ public final class HingesOnHire {
             return false;
         }
 
-        boolean readLine(Signs text, Town town) {
+        private boolean readLine(Signs text, Town town) {
             if (town.doors + newDoors < MAX_DOORS && text.eat('d')) {
                 return readDoor(text);
             }
@@ -1394,7 +1381,7 @@ public final class HingesOnHire {
             return false;
         }
 
-        boolean readDoor(Signs text) {
+        private boolean readDoor(Signs text) {
             int a = text.digit(0, ROOMS - 1);
             if (a == NONE || text.peek() == '0' + a) {
                 return false;
@@ -1417,7 +1404,7 @@ public final class HingesOnHire {
             return true;
         }
 
-        boolean readHinge(Signs text) {
+        private boolean readHinge(Signs text) {
             int hand = readHand(text);
             if (hand == NONE) {
                 return false;
@@ -1437,7 +1424,7 @@ public final class HingesOnHire {
         }
 
         /** The HAND that stands here, or NONE; the reader stays, for a DOOR has no b. */
-        static int readHand(Signs text) {
+        private static int readHand(Signs text) {
             switch (text.peek()) {
                 case 'l':
                     return 0;
@@ -1459,7 +1446,7 @@ public final class HingesOnHire {
             }
         }
 
-        static void addDoor(Town town, int line) {
+        private static void addDoor(Town town, int line) {
             int d = town.doors;
             town.roomA[d] = line >> 12 & 7;
             town.roomB[d] = line >> 8 & 7;
@@ -1470,7 +1457,7 @@ public final class HingesOnHire {
             town.doors++;
         }
 
-        static void addHinge(Town town, int line) {
+        private static void addHinge(Town town, int line) {
             int h = town.hinges;
             town.hand[h] = line >> 8 & 3;
             town.strength[h] = line >> 4 & 15;
@@ -1505,7 +1492,7 @@ public final class HingesOnHire {
             return false;
         }
 
-        boolean readAct(Signs text) {
+        private boolean readAct(Signs text) {
             int kind = text.peek();
             if (kind != 'h' && kind != 't' && kind != 'o' && kind != 'n') {
                 return false;
@@ -1528,7 +1515,7 @@ public final class HingesOnHire {
             return digit != NONE;
         }
 
-        static int readNumber(Signs text) {
+        private static int readNumber(Signs text) {
             int first = text.digit(0, 9);
             if (first == NONE) {
                 return NONE;
@@ -1537,7 +1524,7 @@ public final class HingesOnHire {
             return second == NONE ? first : first * 10 + second;
         }
 
-        void write(int kind, int number, int digit) {
+        private void write(int kind, int number, int digit) {
             if (size < acts.length) {
                 acts[size] = kind << 16 | number << 8 | digit & 255;
                 size++;
@@ -1558,7 +1545,7 @@ public final class HingesOnHire {
             return many;
         }
 
-        boolean carryOutOne(int act, Town town) {
+        private boolean carryOutOne(int act, Town town) {
             int number = act >> 8 & 255;
             int digit = act & 255;
             switch (act >> 16) {
@@ -1584,6 +1571,7 @@ public final class HingesOnHire {
         static final int CHANGE_HINGES = 8;
         static final int MOST_PAIRS = MAX_HINGES * (MAX_HINGES - 1) / 2;
         static final int LAST_STAMP = 1 << 22;
+        static final long NO_KEY = 1L << 60;
 
         final int[] pairs = new int[MAX_DOORS * MOST_PAIRS];
         final int[] prices = new int[MAX_DOORS * MOST_PAIRS];
@@ -1662,7 +1650,7 @@ public final class HingesOnHire {
         }
 
         /** HINGES ahead of this one that serve as well: a search need not try it while one of them is free. */
-        int twinsAhead(Town town, int h) {
+        private int twinsAhead(Town town, int h) {
             int set = 0;
             for (int other = 0; other < h; other++) {
                 boolean alike = town.hand[other] == town.hand[h] && town.hold(other) == town.hold(h);
@@ -1672,7 +1660,7 @@ public final class HingesOnHire {
         }
 
         /** What so many HINGES cost at least, whichever they are. */
-        void addUpLeastFees() {
+        private void addUpLeastFees() {
             int many = 0;
             leastFees[0] = 0;
             for (int fee = 0; fee <= 9; fee++) {
@@ -1685,7 +1673,7 @@ public final class HingesOnHire {
             }
         }
 
-        void addPair(int d, int high, int low) {
+        private void addPair(int d, int high, int low) {
             int at = d * MOST_PAIRS + pairCount[d];
             pairs[at] = 1 << high | 1 << low;
             prices[at] = fees[high] + fees[low];
@@ -1703,7 +1691,7 @@ public final class HingesOnHire {
         }
 
         /** DOORS with the fewest pairs have their turn first: then a search fails early. */
-        void startSearch(int mask) {
+        private void startSearch(int mask) {
             turnCount = 0;
             for (int d = 0; d < doors; d++) {
                 if ((mask & 1 << d) != 0) {
@@ -1721,14 +1709,14 @@ public final class HingesOnHire {
             }
         }
 
-        void forgetSearches() {
+        private void forgetSearches() {
             for (int k = 0; k < memo.length; k++) {
                 memo[k] = 0;
             }
             stamp = 1;
         }
 
-        int costFrom(int turn, int used) {
+        private int costFrom(int turn, int used) {
             if (turn >= turnCount) {
                 return 0;
             }
@@ -1766,7 +1754,7 @@ public final class HingesOnHire {
             }
         }
 
-        int leastPair(int d, int used, int left) {
+        private int leastPair(int d, int used, int left) {
             int from = d * MOST_PAIRS;
             for (int at = from; at < from + pairCount[d]; at++) {
                 if ((pairs[at] & used) == 0 && prices[at] + costFrom(0, used | pairs[at]) == left) {
@@ -1795,7 +1783,7 @@ public final class HingesOnHire {
             return found;
         }
 
-        boolean hasHopelessPart(int mask) {
+        private boolean hasHopelessPart(int mask) {
             for (int d = 0; d < doors; d++) {
                 if ((mask & 1 << d) != 0 && hopeless[mask & ~(1 << d)]) {
                     return true;
@@ -1839,7 +1827,7 @@ public final class HingesOnHire {
         }
 
         /** Whether v is KEPT by these DOORS and would not be without any of them: more than that costs no less. */
-        boolean isNeeded(int mask, int v) {
+        private boolean isNeeded(int mask, int v) {
             if (keptBy[mask] < v) {
                 return false;
             }
@@ -1853,13 +1841,13 @@ public final class HingesOnHire {
 
         /** The fewest changes by which v is KEPT, and the least HANGING with so few. */
         boolean findChange(int v) {
-            leastKey = Long.MAX_VALUE;
+            leastKey = NO_KEY;
             for (int mask = 0; mask < 1 << doors; mask++) {
                 if (isNeeded(mask, v)) {
                     tryPairs(mask, 0, 0);
                 }
             }
-            if (leastKey == Long.MAX_VALUE) {
+            if (leastKey == NO_KEY) {
                 return false;
             }
             long key = leastKey;
@@ -1871,7 +1859,7 @@ public final class HingesOnHire {
             return true;
         }
 
-        void tryPairs(int mask, int d, int used) {
+        private void tryPairs(int mask, int d, int used) {
             if (d >= doors) {
                 weigh(mask, used);
                 return;
@@ -1890,7 +1878,7 @@ public final class HingesOnHire {
         }
 
         /** DOORS that need not be shut keep what is not used: to take it down would be a change for nothing. */
-        void weigh(int mask, int used) {
+        private void weigh(int mask, int used) {
             int moved = 0;
             int displaced = 0;
             long hanging = 0;
@@ -1938,7 +1926,7 @@ public final class HingesOnHire {
         }
 
         /** Where a DOOR leads to from a ROOM, or NONE. */
-        static int beyond(Town town, int d, int room) {
+        private static int beyond(Town town, int d, int room) {
             if (town.roomA[d] == room) {
                 return town.roomB[d];
             }
@@ -1946,7 +1934,7 @@ public final class HingesOnHire {
         }
 
         // A DOOR counts 1 beside 16 for each CREAK: a way has 7 at most, so they only part equally quiet ways.
-        int lengthOf(int d) {
+        private int lengthOf(int d) {
             return creaks[d] * 16 + 1;
         }
 
@@ -1968,7 +1956,7 @@ public final class HingesOnHire {
             return far[0] / 16;
         }
 
-        void measureTo(Town town, int room) {
+        private void measureTo(Town town, int room) {
             for (int k = 0; k < ROOMS; k++) {
                 far[k] = k == room ? 0 : FAR;
             }
@@ -1984,7 +1972,7 @@ public final class HingesOnHire {
             }
         }
 
-        int doorOnTheWay(Town town, int here) {
+        private int doorOnTheWay(Town town, int here) {
             for (int d = 0; d < town.doors; d++) {
                 int there = beyond(town, d, here);
                 if (there != NONE && creaks[d] != SHUT_DOOR && far[there] + lengthOf(d) == far[here]) {
@@ -2012,7 +2000,7 @@ public final class HingesOnHire {
         }
 
         /** Ways on from a ROOM, if CREAK k was that of this DOOR: 0, if it can't be. */
-        long waysThrough(Town town, int k, int room, int d) {
+        private long waysThrough(Town town, int k, int room, int d) {
             int there = beyond(town, d, room);
             if (there == NONE || creaks[d] != heardCreaks[k]) {
                 return 0;
@@ -2033,7 +2021,7 @@ public final class HingesOnHire {
         }
 
         /** ROOMS to which ways lead on from these through a DOOR at CREAK k. */
-        int roomsThrough(Town town, int k, int rooms, int d) {
+        private int roomsThrough(Town town, int k, int rooms, int d) {
             int after = 0;
             for (int room = 0; room < ROOMS; room++) {
                 if ((rooms & 1 << room) != 0 && waysThrough(town, k, room, d) > 0) {
