@@ -65,7 +65,7 @@ public final class HingesOnHire {
         boolean good = text.length == 0 || creaking.readExpression(text, 0) && text.isWhole();
         int answer = good ? 0 : -1 - text.at;
         if (good) {
-            creaking.adopt(text.length > 0);
+            creaking.adopt();
         }
         text.length = 0;
         return answer;
@@ -1148,9 +1148,9 @@ public final class HingesOnHire {
             draftSize = 0;
         }
 
-        /** The draft is THE RULE now, or, without one, there is none. */
-        void adopt(boolean drafted) {
-            size = drafted ? draftSize : 0;
+        /** The draft is THE RULE now; an empty one is none. */
+        void adopt() {
+            size = draftSize;
             System.arraycopy(draft, 0, steps, 0, size);
         }
 

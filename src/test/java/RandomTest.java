@@ -41,6 +41,9 @@ public final class RandomTest {
     private void run(long seed) {
         try {
             int calls = 0;
+            if (mostHinges == 12) {
+                fillHouse();
+            }
             while (calls < 400 && wrong == 0) {
                 calls++;
                 step(calls);
@@ -100,6 +103,25 @@ public final class RandomTest {
             }
         }
         return s.length() > 80 ? s.substring(0, 80) : s.toString();
+    }
+
+    /** Every door and hinge that there is room for: the last of each is where a wrong bound shows. */
+    private void fillHouse() {
+        StringBuilder s = new StringBuilder();
+        for (int d = 0; d < 8; d++) {
+            int a = pick(8);
+            s.append(d > 0 ? ";" : "").append('d').append(a).append((a + 1 + pick(7)) % 8);
+            s.append(pick(2) == 0 ? 'l' : 'r').append(1 + pick(9));
+        }
+        tellText(s.toString());
+        same("house", program.house(), model.house());
+        s.setLength(0);
+        for (int h = 0; h < 12; h++) {
+            s.append(h > 0 ? ";" : "").append('h').append("lrb".charAt(pick(3))).append(1 + pick(9)).append('*').append(pick(10));
+        }
+        tellText(s.toString());
+        same("house", program.house(), model.house());
+        same("hinges", program.count(1), 12);
     }
 
     private String houseText() {
