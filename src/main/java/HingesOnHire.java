@@ -61,8 +61,7 @@ public final class HingesOnHire {
 
     public int rule() {
         text.open(RULE_SIGNS);
-        creaking.startDraft();
-        boolean good = text.length == 0 || creaking.readExpression(text, 0) && text.isWhole();
+        boolean good = creaking.readDraft(text);
         int answer = good ? 0 : -1 - text.at;
         if (good) {
             creaking.adopt();
@@ -745,7 +744,8 @@ public final class HingesOnHire {
 
         /** The digit that stands here, if it is one of low .. high: else NONE, and the reader stays. */
         int digit(int low, int high) {
-            int v = peek() - '0';
+            // Not by peek(): THE RULE's reader is deep enough without it.
+            int v = at >= 0 && at < limit ? signs[at] - '0' : NONE;
             if (v < low || v > high) {
                 return NONE;
             }
@@ -1144,8 +1144,10 @@ public final class HingesOnHire {
         int size;
         int draftSize;
 
-        void startDraft() {
+        /** Whether the text can be THE RULE: then the draft is it, without a step if the text is empty. */
+        boolean readDraft(Signs text) {
             draftSize = 0;
+            return text.length == 0 || readExpression(text, 0) && text.isWhole();
         }
 
         /** The draft is THE RULE now; an empty one is none. */
@@ -1161,7 +1163,7 @@ public final class HingesOnHire {
             }
         }
 
-        boolean readExpression(Signs text, int depth) {
+        private boolean readExpression(Signs text, int depth) {
             if (!readSum(text, depth)) {
                 return false;
             }

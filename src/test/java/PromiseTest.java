@@ -1,13 +1,8 @@
-import java.util.NoSuchElementException;
 import java.util.TreeSet;
 
 /** Each promise of the document by its number: ordinary inputs, the edges that it names, and wrong inputs. */
-public final class PromiseTest {
-    private static int promise = 0;
-    private static int wrong = 0;
-    private static int asked = 0;
+public final class PromiseTest extends Asked {
     private static final TreeSet<Integer> seen = new TreeSet<>();
-    private static HingesOnHire x = new HingesOnHire();
 
     public static void main(String[] args) {
         house();
@@ -21,118 +16,15 @@ public final class PromiseTest {
         kept();
         for (int n = 1; n <= 48; n++) {
             if (!seen.contains(n)) {
-                wrong++;
-                System.out.println("promise " + n + " has no test");
+                tellWrong("promise " + n + " has no test");
             }
         }
-        System.out.println("PromiseTest: " + asked + " answers, " + wrong + " wrong");
-        if (wrong != 0) {
-            System.exit(1);
-        }
+        tellResult("PromiseTest");
     }
-
-    // ---- how answers are looked at
 
     private static void promise(int n) {
-        promise = n;
+        about = "promise " + n;
         seen.add(n);
-    }
-
-    private static void fresh() {
-        x = new HingesOnHire();
-    }
-
-    /** A new object with this house. */
-    private static void fresh(String house) {
-        fresh();
-        text(house);
-        if (x.house() < 1) {
-            wrong++;
-            System.out.println("promise " + promise + ": the house " + house + " does not stand");
-        }
-    }
-
-    private static void due(String call, long got, long want) {
-        asked++;
-        if (got != want) {
-            wrong++;
-            System.out.println("promise " + promise + ": " + call + " answered " + got + ", due is " + want);
-        }
-    }
-
-    private static void due(String call, boolean got, boolean want) {
-        due(call, got ? 1 : 0, want ? 1 : 0);
-    }
-
-    private static void row(long... numbers) {
-        due("numbers of the row", x.count(8), numbers.length);
-        for (int i = 0; i < numbers.length && i < x.count(8); i++) {
-            due("row(" + i + ")", x.row(i), numbers[i]);
-        }
-        due("row behind its end throws", rowThrows(numbers.length), true);
-    }
-
-    private static boolean rowThrows(int i) {
-        try {
-            x.row(i);
-            return false;
-        } catch (NoSuchElementException e) {
-            return true;
-        }
-    }
-
-    private static boolean doorThrows(int d, int what) {
-        try {
-            x.door(d, what);
-            return false;
-        } catch (NoSuchElementException e) {
-            return true;
-        }
-    }
-
-    private static boolean hingeThrows(int h, int what) {
-        try {
-            x.hinge(h, what);
-            return false;
-        } catch (NoSuchElementException e) {
-            return true;
-        }
-    }
-
-    private static void text(String text) {
-        x.end(0);
-        for (int k = 0; k < text.length(); k += 4) {
-            int v = 0;
-            for (int j = 0; j < 4; j++) {
-                v = v << 8 | (k + j < text.length() ? text.charAt(k + j) : 0);
-            }
-            x.sign(v);
-        }
-        x.end(text.length());
-    }
-
-    private static void house(String text, int want) {
-        text(text);
-        due("house of " + text, x.house(), want);
-        due("signs left", x.count(9), 0);
-    }
-
-    private static void rule(String text, int want) {
-        text(text);
-        due("rule of " + text, x.rule(), want);
-        due("signs left", x.count(9), 0);
-    }
-
-    private static void order(String text, int want) {
-        text(text);
-        due("order of " + text, x.order(), want);
-        due("signs left", x.count(9), 0);
-    }
-
-    /** The creak of door 0 by a rule. */
-    private static void creak(String rule, int want) {
-        rule(rule, 0);
-        due("creak by " + rule, x.door(0, 6), want);
     }
 
     // ---- the house

@@ -1,17 +1,22 @@
+import java.util.List;
 import java.util.NoSuchElementException;
 import java.util.Random;
+import java.util.function.LongSupplier;
 
 /** Random runs of calls on the program and on the model, with every answer, the ROW and the whole state compared. */
 public final class RandomTest {
     private static final long THROWS = Long.MIN_VALUE;
+    // What is left of 512 calls is for a look at the whole state.
+    private static final int MOST_CALLS = 230;
     private static final String LETTERS = "dhlrb0123456789*;><=+-/()rsowntidxtno ";
 
     private final Random random;
-    private final HingesOnHire program = new HingesOnHire();
+    private final Counted program = new Counted();
     private final Model model = new Model();
     private final StringBuilder log = new StringBuilder();
     private final int mostDoors;
     private final int mostHinges;
+    private List<Long> rowSeen = List.of();
     private static int wrong = 0;
 
     private RandomTest(long seed, int mostDoors, int mostHinges) {
@@ -21,13 +26,14 @@ public final class RandomTest {
     }
 
     public static void main(String[] args) {
-        int runs = args.length > 0 ? Integer.parseInt(args[0]) : 400;
+        int runs = args.length > 0 ? Integer.parseInt(args[0]) : 500;
         long first = args.length > 1 ? Long.parseLong(args[1]) : 1;
         for (int k = 0; k < runs && wrong == 0; k++) {
             int doors = k % 4 == 3 ? 8 : 1 + k % 4 + k / 4 % 2;
             int hinges = k % 4 == 3 ? 12 : 3 + k % 5;
             new RandomTest(first + k, doors, hinges).run(first + k);
         }
+        wrong += Counted.tooMany();
         System.out.println("RandomTest: " + (wrong == 0 ? "all answers are as due" : "WRONG"));
         if (wrong != 0) {
             System.exit(1);
@@ -40,14 +46,15 @@ public final class RandomTest {
 
     private void run(long seed) {
         try {
-            int calls = 0;
             if (mostHinges == 12) {
                 fillHouse();
             }
-            while (calls < 400 && wrong == 0) {
-                calls++;
-                step(calls);
-                compareState();
+            for (int k = 1; program.calls() < MOST_CALLS && wrong == 0; k++) {
+                step(k);
+                compareRow();
+                if (k % 5 == 0 || program.calls() >= MOST_CALLS) {
+                    compareState(program.twin());
+                }
             }
         } catch (RuntimeException e) {
             wrong++;
@@ -230,10 +237,10 @@ public final class RandomTest {
         return model.doors.isEmpty() || pick(5) == 0 ? pick(4) : model.creak(pick(model.doors.size()));
     }
 
-    private void step(int call) {
-        int op = call < 4 ? 0 : pick(60);
+    private void step(int number) {
+        int op = number < 4 ? 0 : pick(60);
         if (op < 2) {
-            if (call < 4 || pick(4) == 0) {
+            if (number < 4 || pick(4) == 0) {
                 tellText(houseText());
                 same("house", program.house(), model.house());
             } else {
@@ -436,76 +443,54 @@ public final class RandomTest {
         }
     }
 
-    private void compareState() {
+    private void compareRow() {
+        if (model.row.equals(rowSeen)) {
+            return;
+        }
+        rowSeen = model.row;
+        Counted twin = program.twin();
+        check("count 8", twin.count(8), model.count(8));
+        for (int i = -1; i <= model.row.size(); i++) {
+            int at = i;
+            check("row " + i, told(() -> twin.row(at)), told(() -> model.row(at)));
+        }
+    }
+
+    private void compareState(Counted twin) {
         for (int what = -1; what <= 10; what++) {
-            check("count " + what, program.count(what), model.count(what));
+            check("count " + what, twin.count(what), model.count(what));
         }
         for (int i = -1; i <= model.row.size(); i++) {
-            check("row " + i, programRow(i), modelRow(i));
+            int at = i;
+            check("row " + i, told(() -> twin.row(at)), told(() -> model.row(at)));
         }
         for (int d = -1; d <= model.doors.size(); d++) {
             for (int what = -1; what <= 7; what++) {
-                check("door " + d + " " + what, programDoor(d, what), modelDoor(d, what));
+                int door = d;
+                int which = what;
+                check("door " + d + " " + what, told(() -> twin.door(door, which)), told(() -> model.door(door, which)));
             }
         }
         for (int h = -1; h <= model.hinges.size(); h++) {
             for (int what = -1; what <= 7; what++) {
-                check("hinge " + h + " " + what, programHinge(h, what), modelHinge(h, what));
+                int hinge = h;
+                int which = what;
+                check("hinge " + h + " " + what, told(() -> twin.hinge(hinge, which)), told(() -> model.hinge(hinge, which)));
             }
+        }
+    }
+
+    private static long told(LongSupplier call) {
+        try {
+            return call.getAsLong();
+        } catch (NoSuchElementException e) {
+            return THROWS;
         }
     }
 
     private void check(String call, long got, long due) {
         if (got != due) {
             same(call, got, due);
-        }
-    }
-
-    private long programRow(int i) {
-        try {
-            return program.row(i);
-        } catch (NoSuchElementException e) {
-            return THROWS;
-        }
-    }
-
-    private long modelRow(int i) {
-        try {
-            return model.row(i);
-        } catch (NoSuchElementException e) {
-            return THROWS;
-        }
-    }
-
-    private long programDoor(int d, int what) {
-        try {
-            return program.door(d, what);
-        } catch (NoSuchElementException e) {
-            return THROWS;
-        }
-    }
-
-    private long modelDoor(int d, int what) {
-        try {
-            return model.door(d, what);
-        } catch (NoSuchElementException e) {
-            return THROWS;
-        }
-    }
-
-    private long programHinge(int h, int what) {
-        try {
-            return program.hinge(h, what);
-        } catch (NoSuchElementException e) {
-            return THROWS;
-        }
-    }
-
-    private long modelHinge(int h, int what) {
-        try {
-            return model.hinge(h, what);
-        } catch (NoSuchElementException e) {
-            return THROWS;
         }
     }
 }
