@@ -4,6 +4,8 @@ import java.util.function.IntSupplier;
 
 /** How tests ask the program: one object at a time, texts in and rows out, and what was not as due is told and counted. */
 abstract class Asked {
+    /** Numbers that are none of anything: just below the least, and as far away as can be. */
+    static final int[] FAR = {-1, Integer.MIN_VALUE, Integer.MAX_VALUE};
     static Counted x = new Counted();
     static String about = "";
     static int asked = 0;
@@ -76,14 +78,19 @@ abstract class Asked {
 
     static void text(String text) {
         x.end(0);
-        for (int k = 0; k < text.length(); k += 4) {
-            int v = 0;
-            for (int j = 0; j < 4; j++) {
-                v = v << 8 | (k + j < text.length() ? text.charAt(k + j) : 0);
-            }
+        for (int v : packed(text)) {
             x.sign(v);
         }
         x.end(text.length());
+    }
+
+    /** A text by fours, as sign() takes it, with zeros behind its end. */
+    static int[] packed(String text) {
+        int[] fours = new int[(text.length() + 3) / 4];
+        for (int k = 0; k < 4 * fours.length; k++) {
+            fours[k / 4] = fours[k / 4] << 8 | (k < text.length() ? text.charAt(k) : 0);
+        }
+        return fours;
     }
 
     static void house(String text, int want) {

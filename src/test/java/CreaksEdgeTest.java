@@ -1,7 +1,5 @@
 /** Promises 35 to 44, sentence by sentence: gales, creaks that were heard, bidding, rings. */
 public final class CreaksEdgeTest extends Asked {
-    private static final int[] FAR = {-1, Integer.MIN_VALUE, Integer.MAX_VALUE};
-
     public static void main(String[] args) {
         Edges.run(CreaksEdgeTest.class);
     }

@@ -1,7 +1,5 @@
 /** Promises 28 to 34, sentence by sentence: hangings. Nothing changes by these calls but the ROW. */
 public final class HangingsEdgeTest extends Asked {
-    private static final int[] FAR = {-1, Integer.MIN_VALUE, Integer.MAX_VALUE};
-
     public static void main(String[] args) {
         Edges.run(HangingsEdgeTest.class);
     }

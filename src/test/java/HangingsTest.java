@@ -43,11 +43,7 @@ public final class HangingsTest {
     }
 
     private static void build(Counted x, Model model, String text) {
-        for (int k = 0; k < text.length(); k += 4) {
-            int v = 0;
-            for (int j = 0; j < 4; j++) {
-                v = v << 8 | (k + j < text.length() ? text.charAt(k + j) : 0);
-            }
+        for (int v : Asked.packed(text)) {
             x.sign(v);
             model.sign(v);
         }

@@ -1,7 +1,5 @@
 /** Promises 45 to 48, sentence by sentence: kept, counted, told. */
 public final class KeptEdgeTest extends Asked {
-    private static final int[] FAR = {-1, Integer.MIN_VALUE, Integer.MAX_VALUE};
-
     public static void main(String[] args) {
         Edges.run(KeptEdgeTest.class);
     }

@@ -1,7 +1,5 @@
 /** Promises 10 to 18, sentence by sentence: hung and let. */
 public final class LetEdgeTest extends Asked {
-    private static final int[] FAR = {-1, Integer.MIN_VALUE, Integer.MAX_VALUE};
-
     public static void main(String[] args) {
         Edges.run(LetEdgeTest.class);
     }
@@ -367,8 +365,12 @@ public final class LetEdgeTest extends Asked {
         order("n", 1);
         order("h0>0", 1);
         order("h04>1;h03>1", 2);
+        order("", 0);
+        row(0, 0);
+        order("n3", 1);
         String before = unrowed();
         order("", 0);
+        row(0, 0);
         x.shut();
         same("an empty order behind another", before);
         due("on door 0", x.door(0, 4), 1);
@@ -579,6 +581,30 @@ public final class LetEdgeTest extends Asked {
             due("left", x.undo(), k);
         }
         due("days: the first of sixteen is not undone", x.count(2), 26);
+    }
+
+    @Says(promise = 18, text = {"(of 15 that are kept, the latest ones;", "such as were not refused;"})
+    static void p18_refusedBehindFifteen() {
+        twoDoors();
+        x.hang(0, 0);
+        for (int k = 1; k <= 14; k++) {
+            x.day();
+        }
+        due("fifteen", x.count(6), 15);
+        x.hang(0, 1);
+        x.take(1);
+        x.oil(0, 10);
+        x.bend(4);
+        x.days(0);
+        x.gale(1, 20);
+        order("t1;n", 0);
+        order("", 0);
+        due("fifteen", x.count(6), 15);
+        for (int k = 14; k >= 0; k--) {
+            due("left", x.undo(), k);
+            due("days", x.count(2), Math.max(0, k - 1));
+            due("where", x.hinge(0, 5), k > 0 ? 0 : -1);
+        }
     }
 
     @Says(promise = 18, text = "such as were not refused;")

@@ -81,11 +81,7 @@ public final class RandomTest {
         program.end(0);
         model.end(0);
         log.append("text ").append(text).append('\n');
-        for (int k = 0; k < text.length(); k += 4) {
-            int v = 0;
-            for (int j = 0; j < 4; j++) {
-                v = v << 8 | (k + j < text.length() ? text.charAt(k + j) : ' ');
-            }
+        for (int v : Asked.packed(text)) {
             same("sign", program.sign(v), model.sign(v));
         }
         same("end", program.end(Math.min(80, text.length())), model.end(Math.min(80, text.length())));

@@ -67,11 +67,7 @@ public final class RoomTest {
     }
 
     private static void text(HingesOnHire x, String text) {
-        for (int k = 0; k < text.length(); k += 4) {
-            int v = 0;
-            for (int j = 0; j < 4; j++) {
-                v = v << 8 | (k + j < text.length() ? text.charAt(k + j) : 0);
-            }
+        for (int v : Asked.packed(text)) {
             x.sign(v);
         }
         x.end(text.length());

@@ -1,7 +1,5 @@
 /** Promises 19 to 27, sentence by sentence: what is shut. Nothing changes by these calls but the ROW. */
 public final class ShutEdgeTest extends Asked {
-    private static final int[] FAR = {-1, Integer.MIN_VALUE, Integer.MAX_VALUE};
-
     public static void main(String[] args) {
         Edges.run(ShutEdgeTest.class);
     }
