@@ -214,6 +214,36 @@ public final class HangingsEdgeTest extends Asked {
         row(3, 3, 12);
     }
 
+    @Says(promise = 31, text = "The least rent of a DAY at which SECRETS of v (0 .. 63) and more are KEPT: how much;")
+    static void p31_leastComesLate() {
+        rentedRooms("hl1*1;hl1*0;hr1*0;hr1*0");
+        tells("1 by door 0, nothing by door 1", 0, () -> x.cheap(4));
+        row(2, 0, 4 | 8);
+        rentedRooms("hl1*2;hl1*1;hr1*1;hr1*1");
+        tells("3 by door 0, 2 by door 1", 2, () -> x.cheap(4));
+        row(2, 0, 4 | 8);
+        rentedRooms("hr1*0;hl1*1;hl1*1;hr1*1");
+        tells("2 by door 0, 1 by door 1 with the first hinge", 1, () -> x.cheap(4));
+        row(2, 0, 1 | 8);
+        fresh("d01l1;d02l1;hl1*2;hl1;hl1;hl1;hl1");
+        x.secret(1, 4);
+        x.secret(2, 4);
+        tells("both without the first hinge, by 1 less than with it", 4, () -> x.cheap(8));
+        row(3, 2 | 4, 8 | 16);
+        fresh("d01l1;d02l1;d03l1;hl1*1;hl1*2;hl1*3;hl1*4;hl1*5;hl1*6");
+        add("hr1*0;hr1*0;hr1*0;hr1*0;hr1*0;hr1*0");
+        x.sheet(2, 3, 9, 0);
+        tells("all six that fit, however they hang; those of 0 fit none", 21, () -> x.cheap(27));
+        row(7, 3, 12, 48);
+    }
+
+    /** Rooms 1 and 2, behind a door for l and one for r. */
+    private static void rentedRooms(String hinges) {
+        fresh("d01l1;d02r1;" + hinges);
+        x.secret(1, 4);
+        x.secret(2, 4);
+    }
+
     @Says(promise = 31, text = "the ROW: DOORS that are SHUT, a HANGING of these alone: of as cheap ones the least row.")
     static void p31_leastRow() {
         letDoors();
